@@ -411,7 +411,7 @@ public final class AndGuest {
     }
 
     private boolean isGuest(int guest) {
-        return guest >= 0 && guest < party.plan().guests;
+        return guest >= 0 && guest < MOST_GUESTS && guest < party.plan().guests;
     }
 
     private void closeReading() {
@@ -427,7 +427,7 @@ public final class AndGuest {
     private int passWeekBySeed() {
         Plan plan = party.plan();
         int answered = 0;
-        for (int g = 0; g < plan.guests; g++) {
+        for (int g = 0; g < plan.guests && g < MOST_GUESTS; g++) {
             if (standing.how[g] == WAITING && draw(100) < plan.soon) {
                 standing.how[g] = draw(10) < plan.comes[g] ? COMING : NOT_COMING;
                 answered++;
@@ -1588,7 +1588,7 @@ public final class AndGuest {
                 }
             }
             weight *= ways;
-            // A million is three times 100; the others of the divisor are left to divide by.
+            // Over 100 for each of all, times a million (100 three times): so the powers do not overflow.
             for (int k = all; k < 3; k++) {
                 weight *= 100;
             }
@@ -1686,7 +1686,7 @@ public final class AndGuest {
             return sum;
         }
 
-        /** Finds what the card of each costs: once for all sets, as no set changes it. */
+        /** Ahead of all OFFENCE and WORTH: what each one's card costs, once, as no set changes it. */
         void weighCards() {
             for (int g = 0; g < plan.guests && g < MOST_GUESTS; g++) {
                 int behind = standing.isAsked(g) ? standing.behind[g] : standing.behindNow();

@@ -88,9 +88,20 @@ public final class FaultTest {
         behind(HEAD, "more 9;more 0;", 0, 0);
         behind(HEAD, "more 10000;", 1, 9);
         behind(HEAD, "more x;", 1, 5);
+        for (String word : "maybe soon more late".split(" ")) {
+            behind(HEAD, word + ";", 1, word.length());
+        }
     }
 
     private static void names() {
+        for (String own : ("seats bench plate lack guest comes joy with slight pulls hears late maybe soon more weeks "
+                + "size number how or and not all min max").split(" ")) {
+            behind(HEAD, "guest " + own + " comes 1 joy 1 with 1 slight 1;", 1, 6);
+            behind(TWO, "pulls a " + own + ";", 1, 8);
+        }
+        for (String free : "first last often total most least seat maxs o a zzzzzz".split(" ")) {
+            behind(HEAD, "guest " + free + " comes 1 joy 1 with 1 slight 1;", 0, 0);
+        }
         behind(HEAD, "guest how", 1, 6);
         behind(HEAD, "guest max comes", 1, 6);
         behind(HEAD, "guest abcdefg", 1, 12);
@@ -190,6 +201,8 @@ public final class FaultTest {
         behind(late, "comes;", 1, 0);
         behind(late, "pulls 1;", 1, 0);
         behind(late, "xyz;", 1, 0);
+        behind(late, "min;", 1, 3);
+        behind(late, "max ;", 1, 4);
         behind(late, "min 1;", 1, 4);
         behind(late, "min(1;", 1, 5);
         behind(late, "min(1,2;", 1, 7);

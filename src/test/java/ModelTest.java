@@ -275,7 +275,38 @@ public final class ModelTest {
 
     // ---- runs
 
+    /** Another wedding ahead, with much done in it: nothing of it may be left. */
+    private void tellAnotherAhead() {
+        StringBuilder text = new StringBuilder("seats 9 bench 9 plate 9 lack 9;");
+        for (int g = 0; g < 8; g++) {
+            text.append("guest x").append(name(g), 0, 1).append(" comes 5 joy 9 with 3 slight 9;");
+        }
+        text.append("late 9;maybe 1;soon 1;more 1;");
+        for (int g = 0; g < 7; g++) {
+            String next = name(g + 1).substring(0, 1);
+            text.append("pulls x").append(name(g), 0, 1).append(" x").append(next).append(";hears x")
+                    .append(next).append(" x").append(name(g), 0, 1).append(';');
+        }
+        due("wedding ahead", Check.tell(x, text.toString()), 27);
+        x.weeks(9);
+        x.send(128);
+        x.weeks(2);
+        x.send(127);
+        x.answer(0, 4);
+        x.safe(0);
+        x.ring(0);
+        x.best();
+        calls += text.length() / 20 + 10;
+        if (number % 4 == 1) {
+            due("fault ahead", Check.tell(x, text + "guest"), -1);
+            calls += text.length() / 20 + 4;
+        }
+    }
+
     private void run() {
+        if (number % 2 == 1) {
+            tellAnotherAhead();
+        }
         int statements = tellWedding();
         String text = text();
         if (text.length() > 1600) {
@@ -284,7 +315,7 @@ public final class ModelTest {
         calls += text.length() / 20 + 2;
         due("wedding " + text, Check.tell(x, text), statements);
         lookOnce();
-        while (calls < 430) {
+        while (calls < 440) {
             act();
             look();
         }

@@ -545,6 +545,7 @@ public final class PromiseTest {
         due("least bits", y.enough(1), 3);
         due("half of eight", y.enough(4), 255);
         due("no more", y.enough(5), NONE);
+        due("thirty-two", Check.told(EMPTY + eight(10, 3)).enough(32), 255);
         due("no wedding", new AndGuest().enough(0), NONE);
     }
 
@@ -624,6 +625,10 @@ public final class PromiseTest {
         y.send(1);
         y.answer(0, 2);
         due("full alone can be", y.full(), 1000000);
+        AndGuest z = Check.told(EMPTY + "guest a comes 9 joy 1 with 0 slight 0;more 1;");
+        z.send(1);
+        z.answer(0, 3);
+        due("as told alone can be", z.full(), 0);
     }
 
     private static void promise25() {
@@ -798,6 +803,7 @@ public final class PromiseTest {
         due("twenty acts", x.has(10), 20);
         for (int k = 0; k < 20; k++) {
             due("undo " + k, x.undo(), true);
+            due("week behind undo " + k, x.has(3), 24 - k);
         }
         due("not the 21st", x.undo(), false);
         due("week 5", x.has(3), 5);
@@ -943,6 +949,11 @@ public final class PromiseTest {
         return all;
     }
 
+    private static byte[] checked(byte[] picture) {
+        Model.check(picture);
+        return picture;
+    }
+
     private static void on(AndGuest x, boolean want, String why, byte[] picture) {
         int refused = x.status(5);
         Check.put(x, picture);
@@ -990,6 +1001,14 @@ public final class PromiseTest {
         AndGuest z = Check.told(EMPTY);
         on(z, true, "no guests", picture(0, 7, 255, 255));
         due("week 7", z.has(3), 7);
+        AndGuest w = Check.told(EMPTY + eight(1, 0));
+        byte[] all = new byte[29];
+        for (int g = 0; g < 8; g++) {
+            all[4 + 3 * g] = 1;
+        }
+        on(w, true, "all eight", checked(all));
+        Check.tell(w, two);
+        on(w, true, "none of two behind all of eight", picture(0, 7, 255, 255, 0, 0, 0, 0, 0, 0));
         staysWhenRefused();
     }
 
