@@ -4,6 +4,7 @@ import java.nio.charset.StandardCharsets;
 final class Check {
     private static int asked = 0;
     private static int wrong = 0;
+    private static String running = "";
 
     private Check() {
     }
@@ -13,13 +14,18 @@ final class Check {
         if (got != want) {
             wrong++;
             if (wrong <= 40) {
-                System.out.println(what + " answered " + got + ", due is " + want);
+                System.out.println(running + what + " answered " + got + ", due is " + want);
             }
         }
     }
 
     static void due(String what, boolean got, boolean want) {
         due(what, got ? 1 : 0, want ? 1 : 0);
+    }
+
+    /** Which test is running: told ahead of what is wrong. */
+    static void begin(String test) {
+        running = test;
     }
 
     static void finish(String name) {
