@@ -672,13 +672,17 @@ public final class AndGuest {
         }
 
         void wantsSign(char sign) {
-            if (!takesSign(sign)) {
+            if (standsSign(sign)) {
+                step();
+            } else {
                 failHere(FAULT_TEXT);
             }
         }
 
         void wantsWord(Word word) {
-            if (!takesWord(word)) {
+            if (standsWord(word)) {
+                step();
+            } else {
                 failHere(FAULT_TEXT);
             }
         }
@@ -719,7 +723,7 @@ public final class AndGuest {
             return 0;
         }
 
-        private void step() {
+        void step() {
             boolean beside = kind == WORD || kind == NUMBER;
             int from = after;
             start = from;
@@ -729,26 +733,19 @@ public final class AndGuest {
             int sort = sortOf(text.byteAt(start));
             boolean run = sort == WORD || sort == NUMBER;
             kind = beside && run && start == from ? JOINED : sort;
-            if (run) {
-                stepOverRun(sort);
-            } else {
-                value = text.byteAt(start);
-                after = Math.min(start + 1, text.size());
+            value = run ? 0 : text.byteAt(start);
+            after = run ? start : Math.min(start + 1, text.size());
+            while (run && after < text.size() && sortOf(text.byteAt(after)) == sort) {
+                int k = after - start;
+                int sign = text.byteAt(after);
+                value = sort == WORD ? Word.withLetter(value, k, sign) : withDigit(value, k, sign);
+                after++;
             }
         }
 
-        private void stepOverRun(int sort) {
-            value = 0;
-            after = start;
-            while (after < text.size() && sortOf(text.byteAt(after)) == sort) {
-                int k = after - start;
-                if (sort == WORD) {
-                    value = Word.withLetter(value, k, text.byteAt(after));
-                } else if (k < MOST_DIGITS) {
-                    value = 10 * value + text.byteAt(after) - '0';
-                }
-                after++;
-            }
+        // A 5th digit is a FAULT wherever a number is asked, so no number has to hold it.
+        private static int withDigit(int number, int k, int digit) {
+            return k < MOST_DIGITS ? 10 * number + digit - '0' : number;
         }
 
         private static boolean isBlank(int sign) {
@@ -826,9 +823,14 @@ public final class AndGuest {
             return length == 0;
         }
 
+        /** The STATEMENT late; a second one is one too many. */
         void readLate(Reader reader) {
-            length = 0;
+            if (!isEmpty()) {
+                reader.failHere(FAULT_MANY);
+                return;
+            }
             asking = false;
+            reader.takesWord(Word.LATE);
             readSum(reader, 0);
         }
 
@@ -1037,8 +1039,13 @@ public final class AndGuest {
                     add(PULLED);
                 }
             } else {
-                int fact = readFactOfGuest(reader);
-                add(FACT_STEP - fact);
+                int fact = factThatStands(reader);
+                if (fact == NONE) {
+                    reader.failHere(FAULT_TEXT);
+                } else {
+                    reader.step();
+                    add(FACT_STEP - fact);
+                }
             }
         }
 
@@ -1055,30 +1062,30 @@ public final class AndGuest {
             }
         }
 
-        private int readFactOfGuest(Reader reader) {
-            if (reader.takesWord(Word.WEEKS)) {
+        /** The fact of a GUEST whose word stands here, NONE if none does. */
+        private int factThatStands(Reader reader) {
+            if (reader.standsWord(Word.WEEKS)) {
                 return FACT_WEEKS;
             }
-            if (reader.takesWord(Word.SLIGHT)) {
+            if (reader.standsWord(Word.SLIGHT)) {
                 return FACT_SLIGHT;
             }
-            if (reader.takesWord(Word.JOY)) {
+            if (reader.standsWord(Word.JOY)) {
                 return FACT_JOY;
             }
-            if (reader.takesWord(Word.SIZE)) {
+            if (reader.standsWord(Word.SIZE)) {
                 return FACT_SIZE;
             }
-            if (asking && reader.takesWord(Word.NUMBER)) {
+            if (asking && reader.standsWord(Word.NUMBER)) {
                 return FACT_NUMBER;
             }
-            if (asking && reader.takesWord(Word.HOW)) {
+            if (asking && reader.standsWord(Word.HOW)) {
                 return FACT_HOW;
             }
-            if (asking && reader.takesWord(Word.COMES)) {
+            if (asking && reader.standsWord(Word.COMES)) {
                 return FACT_COMES;
             }
-            reader.failHere(FAULT_TEXT);
-            return FACT_NUMBER;
+            return NONE;
         }
     }
 
@@ -1256,7 +1263,7 @@ public final class AndGuest {
                 readTwo(Word.HEARS, plan, plan.heard, plan.hearsTold < MOST_HEARS);
                 plan.hearsTold++;
             } else if (reader.standsWord(Word.LATE)) {
-                readLate(plan);
+                plan.late.readLate(reader);
             } else if (reader.takesWord(Word.MAYBE)) {
                 plan.maybe = reader.wantsNumber(SURE);
             } else if (reader.takesWord(Word.SOON)) {
@@ -1316,15 +1323,6 @@ public final class AndGuest {
                 reader.fail(FAULT_NAME, at);
             }
             return guest;
-        }
-
-        private void readLate(Plan plan) {
-            if (!plan.late.isEmpty()) {
-                reader.failHere(FAULT_MANY);
-                return;
-            }
-            reader.takesWord(Word.LATE);
-            plan.late.readLate(reader);
         }
     }
 
