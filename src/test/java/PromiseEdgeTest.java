@@ -301,11 +301,17 @@ public final class PromiseEdgeTest {
         due("wedding", Check.tell(x, FULL), 53);
     }
 
+    /** Each pulls the next, so that each FAR set has all. */
+    private static final String ROUND = "seats 40 bench 9 plate 9 lack 9;" + Edges.guests(8, 5, 9, 3, 9)
+            + "pulls a b;pulls b c;pulls c d;pulls d e;pulls e f;pulls f g;pulls g h;pulls h a;"
+            + Edges.pairs("hears", 24) + "late 99;maybe 1;soon 1;more 9;";
+
     @Says("4: Without one all is as at first")
     static void nothingOfFullWeddingsIsLeft() {
         AndGuest x = new AndGuest();
         for (int k = 0; k < 2; k++) {
-            due("wedding", Check.tell(x, FULL), 53);
+            due("wedding", Check.tell(x, ROUND), 45);
+            due("far", x.far(7), 255);
             due("send", x.send(255), 8);
         }
         for (int k = 0; k < 2; k++) {
@@ -1485,6 +1491,8 @@ public final class PromiseEdgeTest {
         due("image", x.image(), 11);
         due("now 7", x.octet(3), 7);
         due("a smaller one", Check.tell(x, HEAD), 1);
+        due("still of the one ahead", x.octet(3), 7);
+        due("to its end", x.octet(10) >= 0, true);
         due("image", x.image(), 5);
         due("no byte of the one ahead", x.octet(5), NONE);
     }
