@@ -315,7 +315,7 @@ public final class ModelTest {
         calls += text.length() / 20 + 2;
         due("wedding " + text, Check.tell(x, text), statements);
         lookOnce();
-        while (calls < 440) {
+        while (calls < 400) {
             act();
             look();
         }

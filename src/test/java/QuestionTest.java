@@ -503,6 +503,18 @@ public final class QuestionTest {
     }
 
     @Says("IV: 4 the 7th of ( [ not pulls that is open at once")
+    static void sixOpenWithAllThatMayWaitAhead() {
+        String deep = "1+1*max(0,".repeat(6) + "1+1*1" + ")".repeat(6);
+        AndGuest x = alone();
+        answers(x, "total " + deep, 8);
+        answers(x, "often 1=2 or 1=1 and 8=" + deep, 1);
+        answers(x, "often 1=2 or 1=1 and 7=" + deep, 0);
+        String tests = "1=2 or 1=1 and [".repeat(6) + "1=2 or 1=1 and 2=1+1*1" + "]".repeat(6);
+        answers(x, "often " + tests, 1);
+        answers(x, "often " + tests.replace("2=1+1*1", "3=1+1*1"), 0);
+    }
+
+    @Says("IV: 4 the 7th of ( [ not pulls that is open at once")
     static void closedOnesAreNotOpen() {
         AndGuest x = alone();
         answers(x, "total (1)+(1)+(1)+(1)+(1)+(1)+(1)+(1)", 8);

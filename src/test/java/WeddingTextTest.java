@@ -903,6 +903,7 @@ public final class WeddingTextTest {
         late("((((((5))))))", 5);
         late("min(9,max(1,min(8,max(2,min(7,max(3,4))))))", 4);
         late("(min((min((min(5,6)),7)),8))", 5);
+        late("1+1*max(0,".repeat(6) + "1+1*1" + ")".repeat(6), 8);
     }
 
     @Says("I: 4 the 7th ( that is open at once, at it")
